@@ -71,7 +71,9 @@ public final class Tessera {
         openPauses();
         int thing = graph.addThing(fields);
         for (int s = 0; s < STORES; s++) {
-            stores[s].takeIn(thing);
+            if (!stores[s].broken) {
+                stores[s].placeNew(thing);
+            }
         }
         nameByRoot(root, thing);
         closePauses();
@@ -354,7 +356,7 @@ public final class Tessera {
     private static final class Row {
         private final int[] items = new int[MOST_THINGS];
         private final boolean[] inside = new boolean[MOST_THINGS];
-        private int size;
+        int size;
 
         void empty() {
             for (int i = 0; i < MOST_THINGS; i++) {
@@ -389,7 +391,7 @@ public final class Tessera {
         private final int[] distances = new int[MOST_THINGS];
         private final Row reached = new Row();
         private final Row reachedOtherwise = new Row();
-        private int count;
+        int count;
 
         Graph() {
             for (int r = 0; r < ROOTS; r++) {
@@ -422,11 +424,11 @@ public final class Tessera {
         }
 
         boolean isReached(int thing) {
-            return reached.holds(thing);
+            return thing >= 0 && thing < count && distances[thing] != NONE;
         }
 
         boolean hasField(int thing, int field) {
-            return isThing(thing) && field >= 0 && field < fields[thing];
+            return thing >= 0 && thing < count && field >= 0 && field < fields[thing];
         }
 
         int fieldsOf(int thing) {
@@ -438,7 +440,7 @@ public final class Tessera {
         }
 
         int distanceOf(int thing) {
-            return isReached(thing) ? distances[thing] : NONE;
+            return isThing(thing) ? distances[thing] : NONE;
         }
 
         int nameOf(int thing, int field) {
@@ -540,7 +542,12 @@ public final class Tessera {
 
         abstract int freeTogether();
 
-        abstract void resetOwn();
+        /** Forgets where things lie and what is known of them, but not what was done. */
+        abstract void forgetThings();
+
+        /** Sets to 0 what a store counts beside its work, pauses and collectings. */
+        void resetCounters() {
+        }
 
         /** A field of the namer, or a root (then the namer is none), names another thing than before. */
         void learnNaming(int namer, int before, int after) {
@@ -554,13 +561,8 @@ public final class Tessera {
             broken = false;
             workAhead = 0;
             letAllGo();
-            resetOwn();
-        }
-
-        final void takeIn(int thing) {
-            if (!broken) {
-                placeNew(thing);
-            }
+            forgetThings();
+            resetCounters();
         }
 
         final int cleanUp() {
@@ -578,7 +580,7 @@ public final class Tessera {
         final void breakDown() {
             broken = true;
             letAllGo();
-            resetOwn();
+            forgetThings();
         }
 
         final boolean has(int thing) {
@@ -651,13 +653,11 @@ public final class Tessera {
             super(graph);
         }
 
-        @Override
-        void resetOwn() {
+        void forgetThings() {
             usesSecond = false;
             used = 0;
         }
 
-        @Override
         void placeNew(int thing) {
             int words = graph.wordsOf(thing);
             if (words > freeTogether()) {
@@ -670,7 +670,6 @@ public final class Tessera {
             }
         }
 
-        @Override
         int collectNow() {
             int before = countHad();
             graph.trace(copied, NONE);
@@ -685,17 +684,14 @@ public final class Tessera {
             return before - copied.size;
         }
 
-        @Override
         int countToGo() {
             return countUnreached();
         }
 
-        @Override
         int workToDo() {
             return wordsReached();
         }
 
-        @Override
         int freeTogether() {
             return room / 2 - used;
         }
@@ -722,36 +718,33 @@ public final class Tessera {
             oldEnd = FIRST_ROOM / 4;
         }
 
-        @Override
-        void resetOwn() {
-            clearPlaces();
-            if (!broken) {
-                smallOnes = 0;
-                wordsGrownOld = 0;
-            }
+        void forgetThings() {
+            young.empty();
+            old.empty();
+            youngEnd = 0;
+            oldEnd = room / 4;
         }
 
-        @Override
+        void resetCounters() {
+            smallOnes = 0;
+            wordsGrownOld = 0;
+        }
+
         void placeNew(int thing) {
             int words = graph.wordsOf(thing);
             if (words > freeTogether()) {
                 cleanUpYoung();
             }
-            if (words > freeTogether() && !broken) {
+            if (!broken && words > freeTogether()) {
                 collectNow();
             }
-            if (broken) {
-                return;
-            }
-            if (words > freeTogether()) {
-                breakDown();
-            } else {
+            // The nursery is empty after a great one, and no thing is larger than the least nursery.
+            if (!broken) {
                 putYoung(thing, false);
             }
         }
 
         /** The great collecting. */
-        @Override
         int collectNow() {
             if (!greatFits()) {
                 breakDown();
@@ -760,7 +753,7 @@ public final class Tessera {
             int before = countHad();
             findReached();
             letAllGo();
-            clearPlaces();
+            forgetThings();
             for (int i = 0; i < found.size; i++) {
                 putOld(found.get(i));
                 work += graph.wordsOf(found.get(i));
@@ -791,17 +784,14 @@ public final class Tessera {
             return before - found.size;
         }
 
-        @Override
         int countToGo() {
             return greatFits() ? countUnreached() : 0;
         }
 
-        @Override
         int workToDo() {
             return greatFits() ? wordsReached() : 0;
         }
 
-        @Override
         int freeTogether() {
             return room / 4 - youngEnd;
         }
@@ -910,13 +900,6 @@ public final class Tessera {
             put(thing, oldEnd);
             oldEnd += graph.wordsOf(thing);
         }
-
-        private void clearPlaces() {
-            young.empty();
-            old.empty();
-            youngEnd = 0;
-            oldEnd = room / 4;
-        }
     }
 
     /** A store whose things lie scattered, each at the smallest place that was free for it. */
@@ -940,7 +923,6 @@ public final class Tessera {
             return NONE;
         }
 
-        @Override
         final int freeTogether() {
             int most = 0;
             int run = 0;
@@ -990,14 +972,12 @@ public final class Tessera {
             super(graph);
         }
 
-        @Override
-        void resetOwn() {
+        void forgetThings() {
             marks = false;
             greys.empty();
             firstGrey = 0;
         }
 
-        @Override
         void placeNew(int thing) {
             workAheadOfPlacing();
             int place = firstPlaceFor(thing);
@@ -1018,7 +998,6 @@ public final class Tessera {
             paint(thing, marks ? BLACK : WHITE);
         }
 
-        @Override
         int collectNow() {
             int before = countHad();
             if (!marks) {
@@ -1044,14 +1023,12 @@ public final class Tessera {
             return marks ? greys.size - firstGrey : NONE;
         }
 
-        @Override
         void learnNaming(int namer, int before, int after) {
             if (marks && (namer == NONE || colourOf(namer) == BLACK)) {
                 becomeGrey(after);
             }
         }
 
-        @Override
         int countToGo() {
             foresee();
             int sum = 0;
@@ -1061,7 +1038,6 @@ public final class Tessera {
             return sum;
         }
 
-        @Override
         int workToDo() {
             foresee();
             int sum = countHad();
@@ -1174,14 +1150,16 @@ public final class Tessera {
             super(graph);
         }
 
-        @Override
-        void resetOwn() {
-            if (!broken) {
-                goneByRings = 0;
+        void forgetThings() {
+            for (int i = 0; i < MOST_THINGS; i++) {
+                suspects[i] = false;
             }
         }
 
-        @Override
+        void resetCounters() {
+            goneByRings = 0;
+        }
+
         void placeNew(int thing) {
             int place = firstPlaceFor(thing);
             if (place == NONE) {
@@ -1200,7 +1178,6 @@ public final class Tessera {
         }
 
         /** Looks for rings. */
-        @Override
         int collectNow() {
             findRings();
             work += suspected.size;
@@ -1218,7 +1195,6 @@ public final class Tessera {
             return gone;
         }
 
-        @Override
         void learnNaming(int namer, int before, int after) {
             if (has(after)) {
                 counts[after]++;
@@ -1229,13 +1205,11 @@ public final class Tessera {
             }
         }
 
-        @Override
         int countToGo() {
             findRings();
             return suspected.size - leftOut.size;
         }
 
-        @Override
         int workToDo() {
             findRings();
             return suspected.size;
