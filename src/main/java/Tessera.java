@@ -432,11 +432,11 @@ public final class Tessera {
         }
 
         int fieldsOf(int thing) {
-            return isThing(thing) ? fields[thing] : 0;
+            return thing >= 0 && thing < count ? fields[thing] : 0;
         }
 
         int wordsOf(int thing) {
-            return isThing(thing) ? fields[thing] + 1 : 0;
+            return thing >= 0 && thing < count ? fields[thing] + 1 : 0;
         }
 
         int distanceOf(int thing) {
@@ -444,7 +444,10 @@ public final class Tessera {
         }
 
         int nameOf(int thing, int field) {
-            return hasField(thing, field) ? names[thing * MOST_FIELDS + field] : NONE;
+            if (thing < 0 || thing >= count || field < 0 || field >= fields[thing]) {
+                return NONE;
+            }
+            return names[thing * MOST_FIELDS + field];
         }
 
         int rootAt(int root) {
@@ -465,7 +468,7 @@ public final class Tessera {
             }
         }
 
-        /** Fills the row with what the roots, but the one left out, reach: nearest first, root by root, field by field. */
+        /** Fills the row with what the roots, but the one left out, reach: nearest first, then root by root. */
         void trace(Row row, int leftOut) {
             row.empty();
             for (int r = 0; r < ROOTS; r++) {
@@ -473,7 +476,7 @@ public final class Tessera {
                     row.add(roots[r]);
                 }
             }
-            for (int i = 0; i < row.size; i++) {
+            for (int i = 0; i < row.size && i < MOST_THINGS; i++) {
                 addNamedBy(row.get(i), row);
             }
         }
@@ -599,7 +602,7 @@ public final class Tessera {
         }
 
         final void letGo(int thing) {
-            if (graph.isThing(thing)) {
+            if (thing >= 0 && thing < MOST_THINGS) {
                 had[thing] = false;
             }
         }
@@ -858,7 +861,7 @@ public final class Tessera {
                     addYoungNamedBy(thing);
                 }
             }
-            for (int i = 0; i < found.size; i++) {
+            for (int i = 0; i < found.size && i < MOST_THINGS; i++) {
                 addYoungNamedBy(found.get(i));
             }
         }
@@ -1121,7 +1124,7 @@ public final class Tessera {
             for (int r = 0; !marks && r < ROOTS; r++) {
                 foreseeIfWhite(graph.rootAt(r));
             }
-            for (int i = 0; i < foreseen.size; i++) {
+            for (int i = 0; i < foreseen.size && i < MOST_THINGS; i++) {
                 int thing = foreseen.get(i);
                 for (int f = 0; f < graph.fieldsOf(thing); f++) {
                     foreseeIfWhite(graph.nameOf(thing, f));
@@ -1227,7 +1230,7 @@ public final class Tessera {
         private void lower(int first) {
             fallen.empty();
             lowerOnce(first);
-            for (int i = 0; i < fallen.size; i++) {
+            for (int i = 0; i < fallen.size && i < MOST_THINGS; i++) {
                 int thing = fallen.get(i);
                 for (int f = 0; f < graph.fieldsOf(thing); f++) {
                     lowerOnce(graph.nameOf(thing, f));
@@ -1256,7 +1259,7 @@ public final class Tessera {
                     suspected.add(thing);
                 }
             }
-            for (int i = 0; i < suspected.size; i++) {
+            for (int i = 0; i < suspected.size && i < MOST_THINGS; i++) {
                 graph.addNamedBy(suspected.get(i), suspected);
             }
             countNamedInside();
@@ -1284,7 +1287,7 @@ public final class Tessera {
                     leftOut.add(thing);
                 }
             }
-            for (int i = 0; i < leftOut.size; i++) {
+            for (int i = 0; i < leftOut.size && i < MOST_THINGS; i++) {
                 graph.addNamedBy(leftOut.get(i), leftOut);
             }
         }

@@ -28,6 +28,7 @@ public final class PromiseTest {
         makeInNursery();
         makeInMarking();
         makeInMarkingWithSweepAtOnce();
+        makeInMarkingWhereItEnds();
         makeInCounting();
         promise = 4;
         setNames();
@@ -50,6 +51,7 @@ public final class PromiseTest {
         collectEnds();
         collectRings();
         collectRefusesAndBroken();
+        collectGreatOfJustAsMuchAsFits();
         promise = 10;
         smallPuts();
         smallTurnsGreat();
@@ -212,6 +214,25 @@ public final class PromiseTest {
             refuses(x, "begin(" + room + ")", ARGUMENT, o -> o.begin(room));
         }
         due("begin(64)", x.begin(100), 64);
+        Tessera twice = new Tessera();
+        for (int i = 0; i < 2; i++) {
+            twice.make(3, 0);
+            twice.make(3, 1);
+            for (int s = 0; s < 4; s++) {
+                placesAre(twice, s, 0, 4);
+            }
+            twice.small();
+            twice.small();
+            twice.root(1, -1);
+            twice.set(0, 0, 0);
+            twice.root(0, -1);
+            twice.collect(COUNTING);
+            moreIs(twice, 2, 8, 0, 1);
+            twice.steps(2);
+            twice.make(0, 0);
+            twice.begin(64);
+            moreIs(twice, 0, 0, 0, 0);
+        }
         Tessera broken = begun(40);
         makeChain(broken, 40, 3);
         due("told(0, 7)", broken.told(COPYING, 7), 1);
@@ -266,6 +287,10 @@ public final class PromiseTest {
         x.make(3, 0);
         placesAre(x, COPYING, -1, -1, -1, -1, -1, -1, -1, 32, 36);
         toldIs(x, COPYING, 2, 8, 1, 4, 4, 24, 1, 0);
+        // The next collecting is a pause of its own.
+        makeAtRoot(x, 7, 3, 0);
+        toldIs(x, COPYING, 2, 8, 1, 8, 4, 24, 2, 0);
+        due("at(0, 15)", x.at(COPYING, 15), 4);
     }
 
     private static void makeInNursery() {
@@ -284,6 +309,15 @@ public final class PromiseTest {
         keptIs(x, 0, -1, -1, -1, 2, 1, -1, 1, 0);
         moreIs(x, 2, 4);
         toldIs(x, NURSERY, 4, 16, 0, 16, 12, 4, 0, 0);
+
+        // Both are reached, so that a small one makes no place, and a great one follows.
+        Tessera y = begun(40);
+        y.make(3, 0);
+        y.make(3, 1);
+        y.make(3, 2);
+        placesAre(y, NURSERY, 10, 14, 0);
+        toldIs(y, NURSERY, 3, 12, 0, 16, 16, 6, 1, 0);
+        moreIs(y, 1, 0);
     }
 
     private static void makeInMarking() {
@@ -319,6 +353,32 @@ public final class PromiseTest {
         due("marks", y.more(2), 0);
         y.make(0, 0);
         due("marks", y.more(2), 1);
+    }
+
+    private static void makeInMarkingWhereItEnds() {
+        Tessera x = begun(40);
+        makeChain(x, 9, 3);
+        x.set(4, 0, -1);
+        x.make(3, 1);
+        placesAre(x, MARKING, 0, 4, 8, 12, 16, 20, 24, 28, 32, 36);
+        keptIs(x, 2, 2, 2, 2, 2, 2, 2, 2, 2, 2, 2);
+        due("work", x.told(MARKING, 3), 6 * 4);
+        // The step ahead sweeps, with nothing gone; then it begins and ends, and 5 to 8 are gone.
+        x.make(3, 2);
+        placesAre(x, MARKING, 0, 4, 8, 12, 16, -1, -1, -1, -1, 36, 20);
+        toldIs(x, MARKING, 7, 28, 0, 24 + 10 + 24 + 10, 44, 12, 2, 0);
+
+        // What was marked ahead of being let go stays for the first end, and goes by the second.
+        Tessera y = begun(40);
+        makeChain(y, 10, 3);
+        due("collect(2)", y.collect(MARKING), 0);
+        due("steps(7)", y.steps(7), 1);
+        y.set(2, 0, -1);
+        int work = y.told(MARKING, 3);
+        y.make(3, 1);
+        placesAre(y, MARKING, 0, 4, 8, -1, -1, -1, -1, -1, -1, -1, 12);
+        toldIs(y, MARKING, 4, 16, 0, work + 44, 44, 24, 3, 0);
+        keptIs(y, 2, 0, 0, 0, -1, -1, -1, -1, -1, -1, -1, 0);
     }
 
     private static void makeInCounting() {
@@ -660,6 +720,22 @@ public final class PromiseTest {
         due("told(1, 6)", y.told(NURSERY, 6), great);
     }
 
+    private static void collectGreatOfJustAsMuchAsFits() {
+        Tessera x = begun(40);
+        makeChain(x, 7, 3);
+        x.make(1, 1);
+        // 30 words are reached, and OLD has place for 30.
+        due("wouldGo(1)", x.wouldGo(NURSERY), 0);
+        due("wouldWork(1)", x.wouldWork(NURSERY), 30);
+        due("collect(1)", x.collect(NURSERY), 0);
+        due("told(1, 7)", x.told(NURSERY, 7), 0);
+        due("at(1, 7)", x.at(NURSERY, 7), 38);
+        x.make(0, 2);
+        due("wouldWork(1)", x.wouldWork(NURSERY), 0);
+        due("collect(1)", x.collect(NURSERY), 0);
+        due("told(1, 7)", x.told(NURSERY, 7), 1);
+    }
+
     private static void smallPuts() {
         Tessera x = new Tessera();
         x.make(1, 2);
@@ -684,6 +760,13 @@ public final class PromiseTest {
         moreIs(x, 2, 4);
         toldIs(x, NURSERY, 4, 5, 0, 12, 7, 15, 0, 0);
         due("small() of nothing", new Tessera().small(), 0);
+        Tessera y = new Tessera();
+        y.make(2, 0);
+        y.small();
+        y.small();
+        y.small();
+        toldIs(y, NURSERY, 1, 3, 0, 6, 3, 16, 0, 0);
+        moreIs(y, 3, 3);
     }
 
     private static void smallTurnsGreat() {
