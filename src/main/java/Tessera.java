@@ -15,7 +15,6 @@ public final class Tessera {
     private static final int MOST_TOLD = 7;
     private static final int MOST_KEPT = 4;
     private static final int MOST_MORE = 3;
-    private static final int ASKED_UNREACHED = 2;
     private static final long DIGEST_START = 58088;
     private static final int DIGEST_FACTOR = 31;
 
@@ -171,7 +170,7 @@ public final class Tessera {
                 return asked.countHad();
             case 1:
                 return asked.wordsHad();
-            case ASKED_UNREACHED:
+            case 2:
                 return asked.countUnreached();
             case 3:
                 return asked.work;
@@ -507,10 +506,11 @@ public final class Tessera {
         }
 
         private void measureNamedBy(int thing) {
+            int further = distanceOf(thing) + 1;
             for (int f = 0; f < fieldsOf(thing); f++) {
                 int other = nameOf(thing, f);
                 if (isThing(other) && distances[other] == NONE) {
-                    distances[other] = distances[thing] + 1;
+                    distances[other] = further;
                 }
             }
         }

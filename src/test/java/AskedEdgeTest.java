@@ -1,3 +1,6 @@
+import java.util.List;
+import java.util.function.Supplier;
+
 /** The edges of collecting, of what is asked, and of what would be: promises 9 to 20. */
 public final class AskedEdgeTest extends Sheet {
     public static void main(String[] args) {
@@ -271,10 +274,12 @@ public final class AskedEdgeTest extends Sheet {
     private static void stepsOfBroken() {
         Tessera x = allBroken();
         int work = x.told(MARKING, WORK);
+        int swept = x.told(MARKING, TIMES);
         due("steps(1)", x.steps(1), -1);
         due("steps(20)", x.steps(20), -1);
         more(x, MARKS, 0);
         told(x, MARKING, WORK, work);
+        told(x, MARKING, TIMES, swept);
     }
 
     private static void atNoPlace() {
@@ -679,22 +684,42 @@ public final class AskedEdgeTest extends Sheet {
         }
     }
 
+    /** Marking does not mark, and there is something to be gone in each store. */
+    private static Tessera atRest() {
+        Tessera x = new Tessera();
+        makeChain(x, 3, 2);
+        x.set(2, 0, 1);
+        x.make(1, 1);
+        x.set(3, 0, 3);
+        x.set(0, 0, -1);
+        x.root(1, -1);
+        return x;
+    }
+
     private static void nothingIsChanged() {
-        Tessera x = inTheMidst();
-        for (int i = 0; i < 4; i++) {
-            x.wouldGo(i);
-            x.wouldWork(i);
+        List<Supplier<Tessera>> states = List.of(Tessera::new, AskedEdgeTest::atRest, AskedEdgeTest::inTheMidst,
+                AskedEdgeTest::aboutToBreak, AskedEdgeTest::allBroken);
+        for (Supplier<Tessera> state : states) {
+            for (int store : ALL) {
+                Tessera x = state.get();
+                x.wouldGo(store);
+                goOnAlike("asked by wouldGo(" + store + ")", x, state.get());
+                Tessera y = state.get();
+                y.wouldWork(store);
+                goOnAlike("asked by wouldWork(" + store + ")", y, state.get());
+            }
+            Tessera x = state.get();
+            for (int root = 0; root < 6; root++) {
+                x.wouldLose(root);
+            }
+            goOnAlike("asked by wouldLose", x, state.get());
+            Tessera y = state.get();
+            y.meanLeft();
+            goOnAlike("asked by meanLeft", y, state.get());
+            Tessera z = state.get();
+            z.digest();
+            goOnAlike("asked by digest", z, state.get());
         }
-        for (int root = 0; root < 6; root++) {
-            x.wouldLose(root);
-        }
-        x.meanLeft();
-        x.digest();
-        goOnAlike("asked what would be", x, inTheMidst());
-        Tessera y = aboutToBreak();
-        y.wouldGo(NURSERY);
-        y.wouldWork(NURSERY);
-        goOnAlike("asked whether it would break", y, aboutToBreak());
     }
 
     private static void wouldLose() {

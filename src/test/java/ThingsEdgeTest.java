@@ -538,6 +538,14 @@ public final class ThingsEdgeTest extends Sheet {
         told(z, COUNTING, PAUSE, 2);
         z.make(1, 1);
         told(z, COUNTING, PAUSE, 2);
+        // Nine suspects are looked through to place the last, and its count goes up.
+        z.begin(40);
+        for (int i = 0; i < 10; i++) {
+            z.make(3, 0);
+            z.set(i, 0, i);
+        }
+        z.make(0, 1);
+        told(z, COUNTING, PAUSE, 9 + 1);
     }
 
     private static void pauseOfSet() {
