@@ -144,6 +144,11 @@ abstract class Sheet {
             fault(name + " answered " + got + ", due is throws." + why.getSimpleName());
         }
         goOnAlike("after " + name, x, made.get());
+        Tessera other = made.get();
+        answer(other, call);
+        if (other.digest() != made.get().digest()) {
+            fault("after " + name + " digest() is not the same");
+        }
     }
 
     /**

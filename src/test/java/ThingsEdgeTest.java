@@ -668,6 +668,15 @@ public final class ThingsEdgeTest extends Sheet {
         for (int what = 0; what <= BY_RINGS; what++) {
             more(x, what, 0);
         }
+        for (int store : ALL) {
+            due("wouldGo(" + store + ")", x.wouldGo(store), 0);
+            due("wouldWork(" + store + ")", x.wouldWork(store), 0);
+        }
+        for (int root = 0; root < 6; root++) {
+            due("wouldLose(" + root + ")", x.wouldLose(root), 0);
+        }
+        due("meanLeft()", x.meanLeft(), 0);
+        due("digest() is that of a new one", x.digest() == begun(55).digest() ? 1 : 0, 1);
         goOnAlike("begun anew", x, begun(55));
     }
 
