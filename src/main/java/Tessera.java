@@ -707,6 +707,8 @@ public final class Tessera {
 
     /** Store 1: a nursery for the new things, and a place for those that grow old. */
     private static final class Nursery extends Store {
+        private static final int OLD_AGE = 2;
+
         int smallOnes;
         int wordsGrownOld;
         private final Row young = new Row();
@@ -804,7 +806,7 @@ public final class Tessera {
                 return NONE;
             }
             if (!young.holds(thing)) {
-                return 2;
+                return OLD_AGE;
             }
             return isGrown(thing) ? 1 : 0;
         }
